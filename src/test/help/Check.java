@@ -27,6 +27,11 @@ final class Check {
         }
     }
 
+    /** Seeds that are near each other start alike in Random, so they are spread first. */
+    static java.util.Random lot(long seed) {
+        return new java.util.Random(seed * 0x9E3779B97F4A7C15L);
+    }
+
     /** Puts a text (characters 0 to 255) on the tape. */
     static void feed(MiceEngine x, String text) {
         int rest = (20 - text.length() % 20) % 20;
