@@ -1262,8 +1262,9 @@ public final class MiceEngine {
 
         /** That no LINE has the NAME depends on all of them. */
         private void jump(int to) {
-            if (depth == 0) {
-                deepest = Math.max(deepest, to < 0 ? open[0].size - 1 : to);
+            int lookedAt = to < 0 ? open[depth].size - 1 : to;
+            if (depth == 0 && lookedAt > deepest) {
+                deepest = lookedAt;
             }
             if (to >= 0) {
                 nextLines[depth] = to;
@@ -1656,28 +1657,23 @@ public final class MiceEngine {
 
         /** The latest answer is kept, for its LINES are asked for one by one. */
         int seek(int row, int n, int m) {
-            if (keptRow != row || keptN != n || keptM != m) {
-                keptAnswer = shortest(row, n, m);
-                keptRow = row;
-                keptN = n;
-                keptM = m;
+            if (keptRow == row && keptN == n && keptM == m) {
+                return keptAnswer;
+            }
+            keptRow = row;
+            keptN = n;
+            keptM = m;
+            keptAnswer = NOT_ANY;
+            int many = 1;
+            for (int size = 0; size <= n && many > 0 && keptAnswer == NOT_ANY; size++) {
+                if (many > MOST_CANDIDATES) {
+                    keptAnswer = TOO_MANY;
+                } else if (findOfSize(rows.list[row], size, m)) {
+                    keptAnswer = size;
+                }
+                many *= rows.list[row].size;
             }
             return keptAnswer;
-        }
-
-        private int shortest(int row, int n, int m) {
-            Row source = rows.list[row];
-            int many = 1;
-            for (int size = 0; size <= n && many > 0; size++) {
-                if (many > MOST_CANDIDATES) {
-                    return TOO_MANY;
-                }
-                if (findOfSize(source, size, m)) {
-                    return size;
-                }
-                many *= source.size;
-            }
-            return NOT_ANY;
         }
 
         private boolean findOfSize(Row source, int size, int m) {
