@@ -1929,8 +1929,8 @@ public final class MiceEngine {
             for (int i = 0; i < many; i++) {
                 int group = groups[members[depth][i] * MOST_TRIALS + trial];
                 if (isFirstOfGroup(trial, depth, i)) {
-                    int size = split(trial, depth, many, group);
-                    if (size == many || !settles(depth + 1, size, tries - 1)) {
+                    int part = split(trial, depth, many, group);
+                    if (part == many || !settles(depth + 1, part, tries - 1)) {
                         return false;
                     }
                 }
@@ -1949,15 +1949,15 @@ public final class MiceEngine {
         }
 
         private int split(int trial, int depth, int many, int group) {
-            int size = 0;
+            int part = 0;
             for (int i = 0; i < many; i++) {
                 int member = members[depth][i];
                 if (groups[member * MOST_TRIALS + trial] == group) {
-                    members[depth + 1][size] = member;
-                    size++;
+                    members[depth + 1][part] = member;
+                    part++;
                 }
             }
-            return size;
+            return part;
         }
     }
 }

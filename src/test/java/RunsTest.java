@@ -107,6 +107,7 @@ public final class RunsTest {
         check.due("end is gone", x.out(2, 0, 0, 2), 8);
         check.due("a 9th number", x.run(2, 0, 0), 3);
         outputs("row a{}row b{call a;}row c{call b;call b;}row d{call c;call a;out 1;}trial;", 0, 1);
+        outputs("row a{out 1;}row b{call a;out 2;}row c{call b;out 3;}row d{call c;out 4;call a;}trial;", 0, 1, 2, 3, 4, 1);
         // A called ROW has all its LINES, and jumps by its own NAMES.
         outputs("row a{go x;out 1;x:out 2;}row w{call a;go x;out 3;x:out 4;}trial;", 4, 2, 4);
         check.about("reached with several trials");

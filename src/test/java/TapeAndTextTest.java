@@ -8,6 +8,7 @@ public final class TapeAndTextTest {
         goodTexts();
         syntax();
         room();
+        roomEverywhere();
         laterFaults();
         whichFault();
         faultsChangeNothing();
@@ -170,6 +171,42 @@ public final class TapeAndTextTest {
         check.fault("trial;" + "trial;" + many.substring(0, 132 * 7) + "row", 2, 936);
         check.fault("trial;" + "trial;" + many.substring(0, 132 * 7) + ";", 1, 936);
         check.fault("trial;" + "trial;" + many.substring(0, 132 * 7) + "  ", 0, -1);
+    }
+
+    /** Each TOKEN of a text that has all kinds of them is made the 401st, and so is a wrong one in its place. */
+    private static void roomEverywhere() {
+        check.about("promises 4, 5: a 401st TOKEN");
+        String[] text = ("row p { x : set ka - 5 ; add kb in ; out kc ; go x ; if - 1 <= kd x ; if in == in x ; end ; "
+            + "skip ; } row q { call p ; } trial 1 - 2 gives 3 - 4 ; fuel 9 ; trial ; row r { }").split(" ");
+        for (int i = 0; i < text.length; i++) {
+            StringBuilder ahead = new StringBuilder();
+            int tokens = 400 - i;
+            for (; tokens % 3 != 0; tokens -= 2) {
+                ahead.append("trial;");
+            }
+            ahead.append("fuel 1;".repeat(tokens / 3));
+            for (int j = 0; j < i; j++) {
+                ahead.append(text[j]).append(' ');
+            }
+            String behind = String.join(" ", java.util.Arrays.asList(text).subList(i + 1, text.length));
+            check.fault(ahead + text[i] + ' ' + behind, 2, ahead.length());
+            check.fault(ahead + text[i], 2, ahead.length());
+            check.fault(ahead + "= " + behind, 1, ahead.length());
+            check.fault(ahead + "gives", text[i].equals("gives") ? 2 : isEndOfIn(text, i) ? 2 : 1, ahead.length());
+            boolean mayEnd = i == 0 || text[i].equals("row") || text[i].equals("fuel") || text[i].equals("trial");
+            check.fault(ahead.toString(), mayEnd ? 0 : 1, mayEnd ? -1 : ahead.length());
+        }
+        String fits = String.join(" ", text);
+        check.fault(fits, 0, -1);
+    }
+
+    /** Behind trial and its numbers gives may come. */
+    private static boolean isEndOfIn(String[] text, int i) {
+        int at = i;
+        while (at > 0 && text[at - 1].matches("[0-9]+|-")) {
+            at--;
+        }
+        return at > 0 && text[at - 1].equals("trial") && !text[i - 1].equals("-");
     }
 
     private static void laterFaults() {
