@@ -70,6 +70,12 @@ public final class ChangesTest {
         }
         check.due("21st", x.see(1, 0, 0), -1);
         check.due("count(4)", x.count(4), 20);
+        check.due("hold(0)", x.hold(0), true);
+        check.due("forget()", x.forget(), 20);
+        check.due("restore(0)", x.restore(0), true);
+        check.due("count(4)", x.count(4), 20);
+        check.due("suspects(1,1,20)", x.suspects(1, 1, 20), 0);
+        check.due("suspects(1,1,21)", x.suspects(1, 1, 21), -1);
         check.due("forget()", x.forget(), 20);
         check.due("forget()", x.forget(), 0);
         check.due("count(4)", x.count(4), 0);

@@ -59,6 +59,11 @@ public final class OrdersTest {
         check.due("ways(2,12)", x.ways(2, 12), 479001600);
         mean(x, 2, 13, 1);
         core(x, 2, 0, 0);
+        x = Check.told("row w{" + "skip;".repeat(12) + "}row v{" + "skip;".repeat(11) + "out 1;}trial;");
+        check.due("ways(0,12)", x.ways(0, 12), 479001600);
+        check.due("ways(1,12)", x.ways(1, 12), 0);
+        check.due("ways(1,11)", x.ways(1, 11), 39916800);
+        check.due("ways(0,12)", x.ways(0, 12), 479001600);
     }
 
     private static void allHarm() {
