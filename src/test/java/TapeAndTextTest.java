@@ -52,10 +52,12 @@ public final class TapeAndTextTest {
         check.due("count(5)", x.count(5), 0);
         check.due("read()", x.read(), 0);
         check.due("place()", x.place(), -1);
-        Check.feed(x, "row w{if ka<=");
-        check.due("back(1)", x.back(1), 12);
-        check.due("what went back is not read", x.read(), 1);
-        check.due("place()", x.place(), 12);
+        for (String text : new String[] {"row w{if ka<=", "row abc", "fuel 12", "fuel 1;"}) {
+            Check.feed(x, text);
+            check.due("back(1)", x.back(1), text.length() - 1);
+            check.due("what went back is not read", x.read(), 1);
+            check.due("place()", x.place(), text.length() - 1);
+        }
         Check.feed(x, "row w{}x");
         check.due("back(1)", x.back(1), 7);
         check.due("read()", x.read(), 0);
