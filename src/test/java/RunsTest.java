@@ -147,8 +147,14 @@ public final class RunsTest {
         check.due("step 99", x.step(0, 0, 0, 99), 0);
         check.due("step 100", x.step(0, 0, 0, 100), -1);
         x = Check.told("row w{x:add ka 1;go x;}trial;fuel 300;");
+        check.due("run with 300", x.run(0, 0, 0), 1);
         check.due("ka", x.after(0, 0, 0, 2), 150);
         check.due("step 299", x.step(0, 0, 0, 299), 1);
+        x = Check.told("row w{x:add ka 1;if ka<150 x;}trial;fuel 300;");
+        check.due("run of just 300", x.run(0, 0, 0), 0);
+        check.due("steps", x.after(0, 0, 0, 1), 300);
+        x.put(0, 1, 2);
+        check.due("run of 301", x.run(0, 0, 0), 1);
         x = Check.told("row e{}trial;fuel 1;");
         check.due("run of no LINES", x.run(0, 0, 0), 0);
         check.due("steps", x.after(0, 0, 0, 1), 0);
