@@ -270,6 +270,15 @@ public final class EdgesOfLossesTest {
         check.due("the longest stands last", x.life(0, 2, 0), 1);
         x = Check.told("row w{end;" + "skip;".repeat(15) + "}trial;");
         check.due("all alike", x.life(0, 2, 0), 17);
+        // LINES of one TOKEN go one by one as well: SAME as long as more than FUEL are there.
+        for (int fuel = 1; fuel <= 15; fuel++) {
+            x = Check.told("row w{" + "skip;".repeat(16) + "}trial;fuel " + fuel + ";");
+            check.due("16 skips with " + fuel, x.life(0, 2, 0), 16 - fuel);
+        }
+        x = Check.told("row w{skip;end;skip;out 1;end;}trial;");
+        check.due("out that is passed, skip, then end", x.life(0, 2, 0), 6);
+        x = Check.told("row w{skip;end;skip;out 1;out 2;}trial;fuel 1;");
+        check.due("both outs, then skip", x.life(0, 2, 0), 3);
     }
 
     private static int lot(int n, int seed, int which) {

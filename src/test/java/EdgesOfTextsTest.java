@@ -12,6 +12,7 @@ public final class EdgesOfTextsTest {
         edges.sentence("TOKENS, the longest that can be", EdgesOfTextsTest::longest);
         edges.sentence("NAMES (letters a .. z, 8 at most, none of the words in quotes)", EdgesOfTextsTest::letters);
         edges.sentence("NAMES (letters a .. z, 8 at most, none of the words in quotes)", EdgesOfTextsTest::eightLetters);
+        edges.sentence("NAMES (letters a .. z, 8 at most, none of the words in quotes)", EdgesOfTextsTest::unlikeNames);
         edges.sentence("NAMES (letters a .. z, 8 at most, none of the words in quotes)", EdgesOfTextsTest::words);
         edges.sentence("INTS (1 to 4 digits)", EdgesOfTextsTest::digits);
         edges.sentence("SIGNS ; : { } == != < <= - .", EdgesOfTextsTest::signs);
@@ -129,6 +130,31 @@ public final class EdgesOfTextsTest {
         check.fault("row w{a:skip;go aa;}", 4, 16);
         check.fault("row w{aa:skip;go a;}", 4, 17);
         syntax("row w{" + "a".repeat(1900) + ":skip;}", 6);
+    }
+
+    /** Each letter counts wherever it stands, and so does how many there are. */
+    private static void unlikeNames() {
+        for (char first = 'a'; first <= 'z'; first++) {
+            check.fault("row p{skip;go " + first + ";}", 4, 14);
+            good("row " + first + "{}row " + first + first + "{}row " + first + first + first + "{}");
+            check.fault("row p{" + first + first + ":skip;skip;go " + first + ";}", 4, 22);
+            for (char second = 'a'; second <= 'z'; second++) {
+                String pair = "" + first + second;
+                if (!java.util.Arrays.asList(WORDS).contains(pair)) {
+                    check.fault("row p{" + second + ":skip;" + first + ":skip;go " + pair + ";}", 4, 23);
+                    check.fault("row p{" + pair + ":skip;go " + second + ";}", 4, 17);
+                    check.fault("row " + second + "{}row zzz{call " + pair + ";}", 4, 20);
+                    good("row p{" + pair + ":go " + second + ";" + second + ":go " + pair + ";}");
+                }
+            }
+        }
+        for (int i = 0; i < 8; i++) {
+            for (char letter = 'b'; letter <= 'z'; letter++) {
+                String other = "a".repeat(i) + letter + "a".repeat(7 - i);
+                check.fault("row p{aaaaaaaa:skip;go " + other + ";}", 4, 23);
+                good("row aaaaaaaa{}row " + other + "{}");
+            }
+        }
     }
 
     private static void words() {
