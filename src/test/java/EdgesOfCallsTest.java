@@ -280,6 +280,12 @@ public final class EdgesOfCallsTest {
             }
         }
         asks("line(2,0,0) of no LINES", x -> x.line(2, 0, 0), -1);
+        // Of a LINE that leads somewhere too.
+        MiceEngine y = Check.told("row w{x:go x;if 1<2 x;}");
+        for (int what : new int[] {-2147483648, -2, -1, 3, 4, 5, 2147483647}) {
+            check.due("of go " + what, y.line(0, 0, what), -1);
+            check.due("of if " + what, y.line(0, 1, what), -1);
+        }
         asks("line(1,4,0)", x -> x.line(1, 4, 0), 5);
         asks("where out leads", x -> x.line(1, 4, 2), -1);
         asks("where call leads", x -> x.line(1, 3, 2), -1);

@@ -343,6 +343,14 @@ public final class EdgesOfFaultsTest {
             check.due("count(" + what + ")", x.count(what), none[what]);
         }
         check.due("restore(1)", x.restore(1), false);
+        for (int slot = 0; slot < 3; slot++) {
+            x = busy();
+            x.hold(slot);
+            Check.feed(x, "row z{end;}");
+            check.due("read()", x.read(), 0);
+            check.due("count(6)", x.count(6), 0);
+            check.due("nothing is held", x.restore(slot), false);
+        }
         // The ROWS are as told, though LINES were put into the same text's ROWS ahead.
         x = Check.told("row w{skip;}trial;");
         x.put(0, 0, 0);

@@ -155,6 +155,10 @@ public final class EdgesOfLossesTest {
         x = Check.told("row w{" + "skip;".repeat(13) + "end;end;out 1;}row v{end;" + "skip;".repeat(13) + "end;out 1;}trial;");
         check.due("pair(0)", x.pair(0), 1314);
         check.due("pair(1)", x.pair(1), 14);
+        // The last of 16 LINES: either of the two loops.
+        x = Check.told("row w{" + "skip;".repeat(14) + "x:go x;x:go x;}row v{x:go x;" + "skip;".repeat(14) + "x:go x;}trial;");
+        check.due("pair(0)", x.pair(0), 1415);
+        check.due("pair(1)", x.pair(1), 15);
         x = Check.told("row w{x:set ka 1;out ka;" + "skip;".repeat(12) + "if ka<1 x;if 1==2 x;}row v{skip;}trial;");
         check.due("none", x.pair(0), -2);
         check.due("one LINE", x.pair(1), -2);

@@ -157,6 +157,13 @@ public final class EdgesOfTableTest {
         sought(x, 0, 3, 0, 0, 1, 2);
         x = Check.told("row w{x:add ka 1;if ka<3 x;out ka;}trial gives 4;");
         sought(x, 0, 4, 0, 0, 0, 1, 2);
+        // Rows that begin alike may do something else by what stands behind: the NAME that a jump goes by, or what it comes back from.
+        x = Check.told("row w{if in==1 x;out 1;x:out 2;end;}trial 1 gives 2;trial 0 gives 1;");
+        sought(x, 0, 5, 0, 0, 1, 3, 2);
+        x = Check.told("row w{x:out ka;go x;add ka 1;}trial gives 0 1;");
+        sought(x, 0, 3, 0, 0, 2, 0);
+        x = Check.told("row w{end;x:skip;go x;out 1;y:out 2;if in==3 y;}trial 3 gives 2;trial 0 gives 1;");
+        sought(x, 0, 4, 0, 5, 3, 0, 4);
         // A call is of the ROW as it is.
         x = Check.told("row a{out 1;out 2;}row w{skip;call a;}trial gives 1 2;");
         sought(x, 1, 5, 0, 1);
