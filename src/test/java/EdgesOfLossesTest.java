@@ -22,9 +22,12 @@ public final class EdgesOfLossesTest {
             EdgesOfLossesTest::longest);
         edges.sentence("3 the i-th of those that are there: i is LOT (how many there are) of which the number lost so far;",
             EdgesOfLossesTest::byLot);
-        edges.sentence("how many times it was so (the whole ROW is the first time, all LINES lost a time as well).",
+        edges.sentence("as long as it is SAME: how many times it was so (the whole ROW is the first time, all LINES lost a time as well).",
             EdgesOfLossesTest::times);
         edges.sentence("the rest of h, moved 1 bit down likewise, by n (32 bits that wrap).", EdgesOfLossesTest::lotByHand);
+        edges.sentence("LOT n of a SEED and a which: h is the SEED; for each of 22, which: h becomes (h and it, each bit of which is in just "
+            + "one) times 1103515245 and 12345 more, then h and h moved 15 bits down (zeros come in), likewise;",
+            EdgesOfLossesTest::lotOfBits);
         check.end();
     }
 
@@ -347,6 +350,35 @@ public final class EdgesOfLossesTest {
         }
         for (int i = 0; i < 16; i++) {
             check.due("LOT of 16 is " + i + " for some SEED", met[i], true);
+        }
+    }
+
+    /** The same LOT by whole numbers that are cut to 32 bits, asked for by which LINE goes first, second, third. */
+    private static int plainLot(int n, int seed, int which) {
+        java.math.BigInteger cut = java.math.BigInteger.ONE.shiftLeft(32);
+        java.math.BigInteger h = java.math.BigInteger.valueOf(seed).mod(cut);
+        for (int it : new int[] {22, which}) {
+            h = h.xor(java.math.BigInteger.valueOf(it)).multiply(java.math.BigInteger.valueOf(1103515245))
+                .add(java.math.BigInteger.valueOf(12345)).mod(cut);
+            h = h.xor(h.divide(java.math.BigInteger.valueOf(32768)));
+        }
+        return h.divide(java.math.BigInteger.TWO).mod(java.math.BigInteger.valueOf(n)).intValue();
+    }
+
+    private static void lotOfBits() {
+        int[] seeds = {0, 1, 22, 23, -1, -2, 2147483647, -2147483648, 32767, 32768, 65536, 1103515245, -12345, 1 << 30, 0x55555555};
+        for (int seed : seeds) {
+            for (int which = 0; which < 16; which++) {
+                for (int n = 1; n <= 16; n++) {
+                    check.due("LOT " + n + " of " + seed + " and " + which, lot(n, seed, which), plainLot(n, seed, which));
+                }
+            }
+            for (int size = 1; size <= 16; size++) {
+                for (int at = 0; at < size; at++) {
+                    MiceEngine x = Check.told("row w{" + "skip;".repeat(at) + "out 1;" + "skip;".repeat(size - 1 - at) + "}trial;");
+                    check.due("life(0,3," + seed + ") of " + at + " of " + size, x.life(0, 3, seed), timeOf(size, at, seed));
+                }
+            }
         }
     }
 }

@@ -10,7 +10,9 @@ public final class EdgesOfOrdersTest {
         edges.sentence("(0: all orders keep it SAME to the end)", EdgesOfOrdersTest::toTheEnd);
         edges.sentence("WAYS of k: in how many orders k LINES may be lost so that it is SAME each time.", EdgesOfOrdersTest::ways);
         edges.sentence("WAYS of k (0 .. how many LINES there are)", EdgesOfOrdersTest::whichK);
-        edges.sentence("summed from k 0 to all, by all orders, as a fraction that cannot be lessened.", EdgesOfOrdersTest::mean);
+        edges.sentence("MEAN: how many times it is SAME on the average, all orders to the last LINE alike: WAYS of k times what is left "
+            + "in orders, summed from k 0 to all, by all orders, as a fraction that cannot be lessened.", EdgesOfOrdersTest::mean);
+        edges.sentence("summed from k 0 to all, by all orders, as a fraction that cannot be lessened.", EdgesOfOrdersTest::meanOfWays);
         edges.sentence("CORE: the fewest LINES that alone DO the same (SAME when all others are lost); of alike ones the least bits.",
             EdgesOfOrdersTest::core);
         check.end();
@@ -156,6 +158,30 @@ public final class EdgesOfOrdersTest {
         check.due("mean(1,true)", x.mean(1, true), 2);
         check.due("mean(1,false)", x.mean(1, false), 5);
         check.due("mean(0,false)", x.mean(0, false), 3);
+    }
+
+    private static void meanOfWays() {
+        String[] texts = {"row w{end;end;out 1;}trial;", "row w{set ka 1;set ka 1;out ka;skip;}trial;", "row w{go x;out 7;x:skip;}trial;",
+            "row w{skip;skip;end;end;out 1;skip;}trial;", "row w{" + "end;".repeat(11) + "out 1;}trial;",
+            "row w{" + "x:go x;".repeat(12) + "}trial;", "row w{out in;out in;}trial;trial 0 1;", "row w{out 1;" + "skip;".repeat(11) + "}trial;"};
+        for (String text : texts) {
+            MiceEngine x = Check.told(text);
+            int size = x.lines(0);
+            long sum = 0;
+            for (int k = 0; k <= size; k++) {
+                sum += x.ways(0, k) * orders(size - k);
+            }
+            long above = x.mean(0, false);
+            long below = x.mean(0, true);
+            check.due("the fraction of " + text, above * orders(size), sum * below);
+            check.due("what is in both", java.math.BigInteger.valueOf(above).gcd(java.math.BigInteger.valueOf(below)).longValue(), 1);
+            check.due("no less than the whole ROW", above >= below, true);
+            check.due("no more than all", above <= (size + 1) * below, true);
+        }
+    }
+
+    private static long orders(int many) {
+        return many == 0 ? 1 : many * orders(many - 1);
     }
 
     private static void core(String text, int many, int bits) {

@@ -21,6 +21,9 @@ public final class EdgesOfTextsTest {
         edges.sentence("TELL: 'row' NAME '{' {LINE} '}' | 'trial' {N} ['gives' {N}] ';' | 'fuel' INT ';'.",
             EdgesOfTextsTest::leastTells);
         edges.sentence("LINE: [NAME ':'] ORDER ';'.", EdgesOfTextsTest::namedLines);
+        edges.sentence("ORDER: ('set' | 'add' | 'sub' | 'mul' | 'div') C V | 'out' V | 'go' NAME | 'if' V ('==' | '!=' | '<' | '<=') V "
+            + "NAME | 'call' NAME | 'end' | 'skip'.", EdgesOfTextsTest::orders);
+        edges.sentence("C: 'ka' | 'kb' | 'kc' | 'kd'. V: N | C | 'in'.", EdgesOfTextsTest::counters);
         edges.sentence("N: ['-'] INT.", EdgesOfTextsTest::numbers);
         edges.sentence("ROWS, the LINES of each, TRIALS are numbered each from 0 on as they stand.",
             EdgesOfTextsTest::numbering);
@@ -291,6 +294,80 @@ public final class EdgesOfTextsTest {
         MiceEngine x = Check.told("row w{skip;x:skip;}");
         check.due("without a NAME", x.line(0, 0, 1), 1);
         check.due("with a NAME", x.line(0, 1, 1), 3);
+    }
+
+    /** An ORDER with a part too few is SYNTAX where the part should be, with one too many at that part. */
+    private static void parts(String order) {
+        String[] tokens = order.split(" ");
+        String ahead = "row v{}row w{x:skip;";
+        good(ahead + order + ";}");
+        String so = ahead;
+        for (int i = 0; i < tokens.length; i++) {
+            if (i > 0) {
+                syntax(so + ";}", so.length());
+                syntax(so + "}", so.length());
+                syntax(so + ":", so.length());
+                syntax(so, so.length());
+                if (!tokens[i - 1].equals("-")) {
+                    syntax(so + "end;}", so.length());
+                }
+            }
+            so = so + tokens[i] + " ";
+        }
+        for (String more : new String[] {"1", "ka", "in", "x", "skip", "==", "-", ":", "{", "}", "row", "="}) {
+            syntax(so + more + ";}", so.length());
+        }
+        syntax(so, so.length());
+    }
+
+    private static void orders() {
+        for (String order : new String[] {"set", "add", "sub", "mul", "div"}) {
+            parts(order + " ka 1");
+            parts(order + " kd - 1");
+            parts(order + " kb kc");
+            parts(order + " kc in");
+            int at = ("row w{" + order + " ").length();
+            for (String wrong : new String[] {"in", "1", "x", "ke", "k", "kaa", "-1", "-", "==", "set"}) {
+                syntax("row w{" + order + " " + wrong + " 1;}", at);
+            }
+        }
+        for (String test : new String[] {"==", "!=", "<", "<="}) {
+            parts("if 1 " + test + " 2 x");
+            parts("if - 1 " + test + " - 2 x");
+            parts("if in " + test + " in x");
+            parts("if ka " + test + " kd x");
+        }
+        for (String order : new String[] {"out 1", "out - 1", "out kd", "out in", "go x", "call v", "end", "skip"}) {
+            parts(order);
+        }
+        for (String wrong : new String[] {"1", "-1", "ka", "in", "row", "==", ";"}) {
+            syntax("row v{}row w{x:go " + wrong + ";}", 18);
+            syntax("row v{}row w{call " + wrong + ";}", 18);
+        }
+        for (String wrong : new String[] {"ka", "kd", "in", "row", "trial", "gives", "fuel", "1", "-", "==", ":", "{"}) {
+            syntax("row w{" + wrong + " 1;}", 6);
+            syntax("row w{x:" + wrong + " 1;}", 8);
+        }
+        for (String wrong : new String[] {"-", "1", "x", ";", "ka", ":", "="}) {
+            syntax("row w{x:if 1 " + wrong + " 2 x;}", 13);
+        }
+    }
+
+    private static void counters() {
+        String[] all = {"ka", "kb", "kc", "kd"};
+        for (int c = 0; c < 4; c++) {
+            MiceEngine x = Check.told("row w{set " + all[c] + " 7;add " + all[c] + " " + all[c] + ";out " + all[c] + ";}trial;");
+            check.due("out " + all[c], x.out(0, 0, 0, 0), 14);
+            for (int other = 0; other < 4; other++) {
+                check.due(all[other] + " by " + all[c], x.after(0, 0, 0, 2 + other), other == c ? 14 : 0);
+            }
+        }
+        for (String wrong : new String[] {"k", "ke", "kk", "a", "kab", "xka", "set", "go", "==", "row", ";", "{"}) {
+            syntax("row w{out " + wrong + ";}", 10);
+            syntax("row w{x:if " + wrong + " < 1 x;}", 11);
+            syntax("row w{x:if 1 < " + wrong + " x;}", 15);
+            syntax("row w{set ka " + wrong + ";}", 13);
+        }
     }
 
     private static void numbers() {
