@@ -195,5 +195,25 @@ public final class EdgesOfFullSizeTest {
         }
         check.due("all KNOWN", x.most(0, 1, 8), 0);
         check.due("none is KNOWN", x.most(0, 1, 0), -2);
+        // No TRIAL but the 8 that are told.
+        ofEight("if ka==6 x;if ka<5 x;if ka==2 x;if ka!=5 y;", new int[] {1, 5, 4, 3, 1, 8, 5, 2}, 1, 3);
+        ofEight("if ka==3 y;if ka<=4 y;if ka==2 x;if ka==6 x;if ka==5 x;if ka<2 x;if ka<7 x;if ka<=5 y;if ka==4 x;",
+            new int[] {4, 7, 8, 1, 6, 6, 3, 7}, 2, 4);
+        ofEight("if ka==6 x;if ka==4 x;if ka<=1 x;if ka==0 y;if ka<4 y;if ka==3 x;if ka<0 y;if ka<=0 y;if ka==1 x;if ka==1 y;if ka<=4 x;",
+            new int[] {5, 3, 2, 4, 1, 6, 3, 5}, 2, -2);
+        ofEight("if ka==2 y;if ka!=4 x;if ka==1 x;if ka<=7 x;if ka<1 x;if ka==7 y;if ka==1 x;if ka!=4 x;if ka==0 y;if ka!=7 x;if ka<=5 y;"
+            + "if ka!=2 x;", new int[] {4, 1, 7, 1, 7, 7, 3, 7}, 2, 2);
+    }
+
+    private static void ofEight(String tests, int[] trials, int n, int due) {
+        StringBuilder text = new StringBuilder("row w{set ka in;" + tests + "out 0;x:out 1;y:out 2;}");
+        for (int t : trials) {
+            text.append("trial ").append(t).append(';');
+        }
+        Oracle o = new Oracle();
+        o.tape.append(text);
+        o.read();
+        check.due("most of " + text, Check.told(text.toString()).most(0, n, 0), due);
+        check.due("the plain reading", o.most(0, n, 0), due);
     }
 }
