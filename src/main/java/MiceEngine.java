@@ -1379,10 +1379,12 @@ public final class MiceEngine {
 
         int firstBroken(int row, int n) {
             int limit = 1 << rows.list[row].size;
-            for (int set = (1 << n) - 1; set < limit; set = setBehind(set)) {
+            int set = (1 << n) - 1;
+            for (int i = 0; i < limit && set < limit; i++) {
                 if (firstOther(row, set) != NOT_ANY) {
                     return set;
                 }
+                set = setBehind(set);
             }
             return NOT_ANY;
         }
@@ -1560,8 +1562,10 @@ public final class MiceEngine {
             waysBySize[0] = 1;
             for (int set = 1; set < (1 << size); set++) {
                 int ways = 0;
-                for (int rest = set; rest != 0; rest &= rest - 1) {
-                    ways += waysTo[set ^ (rest & -rest)];
+                for (int last = 0; last < size; last++) {
+                    if (((set >>> last) & 1) != 0) {
+                        ways += waysTo[set ^ (1 << last)];
+                    }
                 }
                 waysTo[set] = ways > 0 && losses.firstOther(row, set) == NOT_ANY ? ways : 0;
                 waysBySize[Integer.bitCount(set)] += waysTo[set];
@@ -1611,10 +1615,12 @@ public final class MiceEngine {
         private int fewestThatDo(int row) {
             int all = (1 << rows.list[row].size) - 1;
             for (int n = 0; n < rows.list[row].size; n++) {
-                for (int kept = (1 << n) - 1; kept <= all; kept = setBehind(kept)) {
+                int kept = (1 << n) - 1;
+                for (int i = 0; i <= all && kept <= all; i++) {
                     if (losses.firstOther(row, all ^ kept) == NOT_ANY) {
                         return kept;
                     }
+                    kept = setBehind(kept);
                 }
             }
             return all;
@@ -1756,11 +1762,11 @@ public final class MiceEngine {
             }
             keptRow = row;
             keptN = n;
-            size = 0;
             int limit = 1 << rows.list[row].size;
-            for (int set = (1 << n) - 1; set < limit && size < MOST_SETS; set = setBehind(set)) {
+            int set = (1 << n) - 1;
+            for (size = 0; size < MOST_SETS && set < limit; size++) {
                 sets[size] = set;
-                size++;
+                set = setBehind(set);
             }
             for (int t = 0; t < MOST_TRIALS; t++) {
                 isGrouped[t] = false;

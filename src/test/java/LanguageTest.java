@@ -42,6 +42,26 @@ public final class LanguageTest {
         check.due("public classes", code.split("\\bpublic\\b[^;({]*\\bclass\\b").length, 2);
         check.due("classes", code.split("\\bclass\\b").length - 1 <= 13, true);
         methodsStayShort(code);
+        loopsCount(code);
+    }
+
+    /** A loop's end must be seen from its own lines: a counter that goes up or down by as much each time. */
+    private static void loopsCount(String code) {
+        Matcher heads = Pattern.compile("\\bfor \\([^;\n]*;([^;\n]*);(.*)\\) \\{").matcher(code);
+        int counted = 0;
+        while (heads.find()) {
+            check.due("a bound in " + heads.group(), heads.group(1).matches(".* (<|<=|>|>=) .*"), true);
+            check.due("a count in " + heads.group(), heads.group(2).trim().matches("\\w+(\\+\\+|--| -= [1-9])"), true);
+            counted++;
+        }
+        check.due("loops that are no such for", code.split("\\b(for|do) ?[({]").length - 1 - counted, 0);
+        Matcher whiles = Pattern.compile("\\bwhile \\((\\w+) < (.*)\n(.*)").matcher(code);
+        int others = code.split("\\bwhile\\b").length - 1;
+        while (whiles.find()) {
+            check.due("a count in " + whiles.group(), whiles.group(3).trim().equals(whiles.group(1) + "++;"), true);
+            others--;
+        }
+        check.due("loops that are no such while", others, 0);
     }
 
     private static void methodsStayShort(String code) {
